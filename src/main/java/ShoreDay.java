@@ -1024,7 +1024,8 @@ public final class ShoreDay {
 
         private final int[] tongues = new int[MOST_GUIDES];
         private int known;
-        // Most seats of the TOURS from one on, by that TOUR and the set of GUIDES taken ahead of it.
+        // Most seats of the TOURS from one on, by that TOUR and the set of GUIDES taken ahead of it. TOURS are
+        // never taken away, so the row behind the last one is as it was made: all 0.
         private final int[] most = new int[(MOST_TOURS + 1) * ALL_SETS];
         final int[] chosen = new int[MOST_TOURS];
 
@@ -1056,9 +1057,6 @@ public final class ShoreDay {
         }
 
         private void fillMost(Tour[] tours, int tourCount) {
-            for (int taken = 0; taken < ALL_SETS; taken++) {
-                most[tourCount * ALL_SETS + taken] = 0;
-            }
             for (int i = tourCount - 1; i >= 0; i--) {
                 for (int taken = 0; taken < 1 << known; taken++) {
                     int best = most[(i + 1) * ALL_SETS + taken];

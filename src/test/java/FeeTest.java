@@ -18,6 +18,7 @@ public final class FeeTest {
         landedAhead();
         deepest();
         longest();
+        manyTexts();
         CHECK.end();
     }
 
@@ -100,6 +101,16 @@ public final class FeeTest {
         fault(";", 1, 0);
         fault("Fee 1 when 1;", 1, 0);
         fault("fees 1 when 1;", 1, 0);
+        for (char letter = 'a'; letter <= 'z'; letter++) {
+            fault("fee" + letter + " 1 when 1;", 1, 0);
+        }
+        fault("fee{", 1, 3);
+        fault("fee`", 1, 3);
+        fault("fee 1/", 1, 5);
+        fault("fee 1:", 1, 5);
+        for (String sign : new String[] {"(", ";", "1;", "a1", "~"}) {
+            fault(sign.repeat(600 / sign.length()), 1, 0);
+        }
         fault("fee", 1, 3);
         fault("fee  ", 1, 5);
         fault("fee when", 1, 4);
@@ -218,6 +229,8 @@ public final class FeeTest {
         value("0 - 1 < 0", 1);
         value("2 = 2", 1);
         value("2 = 3", 0);
+        value("(2 = 2) = 1", 1);
+        value("(2 = 3) = 0", 1);
         value("2 and 4", 1);
         value("2 and 0", 0);
         value("0 and 2", 0);
@@ -326,6 +339,19 @@ public final class FeeTest {
         }
         value("(1) and 0 = 1 - 1 + " + "(0 = 1 + (0 = 1 + (0 = 1 + (1 - 1))))", 1);
         value(none, 0);
+    }
+
+    /** Nothing of the texts there were, right or faulty, is left in the one in force. */
+    private static void manyTexts() {
+        ShoreDay day = landing(2, 0, 0, 1);
+        for (int i = 0; i < 60; i++) {
+            String e = "1+".repeat(20) + "1";
+            CHECK.same("text " + i, Check.read(day, "fee 500 when " + e + (i % 3 == 2 ? "" : ";")), i % 3 == 2 ? 1 + 16 * 54 : 0);
+        }
+        Check.read(day, "fee 4 when guests = 2 and (1 and (2 - 1 = 1)); fee 3 when 1;");
+        CHECK.same("lines", day.count(8), 2);
+        day.minutes(2);
+        CHECK.same("paid by the last one", day.look(0, 4), 8);
     }
 
     private static void longest() {
