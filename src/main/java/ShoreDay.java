@@ -674,7 +674,7 @@ public final class ShoreDay {
         int readTape() {
             tokens.takeTape(tape);
             spare.clear();
-            for (int line = 0; line <= MOST_LINES && tokens.kind() != END; line++) {
+            for (int line = 0; line <= MOST_LINES && tokens.kind != END; line++) {
                 if (!parser.readLine(spare)) {
                     return parser.fault;
                 }
@@ -731,86 +731,82 @@ public final class ShoreDay {
         private final int[] places = new int[TAPE_LENGTH + 1];
         private final int[] values = new int[TAPE_LENGTH + 1];
         private int size;
-        private int at;
-
-        int kind() {
-            return kinds[at];
-        }
-
-        int place() {
-            return places[at];
-        }
-
-        int value() {
-            return values[at];
-        }
+        private int next;
+        // Of the token at which the reading stands.
+        int kind;
+        int place;
+        int value;
 
         void step() {
-            if (at < size - 1) {
-                at++;
+            if (next < size) {
+                kind = kinds[next];
+                place = places[next];
+                value = values[next];
+                next++;
             }
         }
 
         void takeTape(Tape tape) {
             size = 0;
-            at = 0;
-            int next = 0;
-            for (int i = 0; i < TAPE_LENGTH && next < tape.length; i++) {
-                next += isBlank(tape.signs[next]) ? 1 : takeToken(tape, next);
+            int sign = 0;
+            for (int i = 0; i < TAPE_LENGTH && sign < tape.length; i++) {
+                sign += isBlank(tape.signs[sign]) ? 1 : takeToken(tape, sign);
             }
             put(END, tape.length, 0);
             tape.length = 0;
+            next = 0;
+            step();
         }
 
         /** Answers the token's length, which is 1 at least. */
-        private int takeToken(Tape tape, int place) {
+        private int takeToken(Tape tape, int begin) {
             int length = 1;
-            if (isLetter(tape.signs[place])) {
-                while (place + length < tape.length && isLetter(tape.signs[place + length])) {
+            if (isLetter(tape.signs[begin])) {
+                while (begin + length < tape.length && isLetter(tape.signs[begin + length])) {
                     length++;
                 }
-                put(length > MOST_WORD ? NOTHING : wordKind(tape, place, length), place, 0);
-            } else if (isDigit(tape.signs[place])) {
-                int value = tape.signs[place] - '0';
-                while (place + length < tape.length && isDigit(tape.signs[place + length])) {
-                    value = 10 * value + tape.signs[place + length] - '0';
+                put(length > MOST_WORD ? NOTHING : wordKind(tape, begin, length), begin, 0);
+            } else if (isDigit(tape.signs[begin])) {
+                int number = tape.signs[begin] - '0';
+                while (begin + length < tape.length && isDigit(tape.signs[begin + length])) {
+                    number = 10 * number + tape.signs[begin + length] - '0';
                     length++;
                 }
-                put(length > MOST_DIGITS ? NOTHING : NUMBER, place, value);
+                put(length > MOST_DIGITS ? NOTHING : NUMBER, begin, number);
             } else {
-                put(markKind(tape.signs[place]), place, 0);
+                put(markKind(tape.signs[begin]), begin, 0);
             }
             return length;
         }
 
-        private void put(int kind, int place, int value) {
+        private void put(int newKind, int newPlace, int newValue) {
             if (size <= TAPE_LENGTH) {
-                kinds[size] = kind;
-                places[size] = place;
-                values[size] = value;
+                kinds[size] = newKind;
+                places[size] = newPlace;
+                values[size] = newValue;
                 size++;
             }
         }
 
-        private static int wordKind(Tape tape, int place, int length) {
-            if (tape.has("fee", place, length)) {
+        private static int wordKind(Tape tape, int begin, int length) {
+            if (tape.has("fee", begin, length)) {
                 return FEE;
-            } else if (tape.has("when", place, length)) {
+            } else if (tape.has("when", begin, length)) {
                 return WHEN;
-            } else if (tape.has("and", place, length)) {
+            } else if (tape.has("and", begin, length)) {
                 return AND;
-            } else if (tape.has("guests", place, length)) {
+            } else if (tape.has("guests", begin, length)) {
                 return GUESTS;
-            } else if (tape.has("tour", place, length)) {
+            } else if (tape.has("tour", begin, length)) {
                 return TOUR;
-            } else if (tape.has("hour", place, length)) {
+            } else if (tape.has("hour", begin, length)) {
                 return HOUR;
-            } else if (tape.has("rank", place, length)) {
+            } else if (tape.has("rank", begin, length)) {
                 return RANK;
-            } else if (tape.has("ship", place, length)) {
+            } else if (tape.has("ship", begin, length)) {
                 return SHIP;
             }
-            return tape.has("landed", place, length) ? LANDED : NOTHING;
+            return tape.has("landed", begin, length) ? LANDED : NOTHING;
         }
 
         private static int markKind(char sign) {
@@ -859,14 +855,14 @@ public final class ShoreDay {
 
         boolean readLine(FeeText target) {
             into = target;
-            if (tokens.kind() == FEE && into.lines >= MOST_LINES) {
+            if (tokens.kind == FEE && into.lines >= MOST_LINES) {
                 return fail(TOO_MUCH);
             }
             if (!expect(FEE)) {
                 return false;
             }
-            int fee = tokens.value();
-            if (tokens.kind() == NUMBER && fee > MOST_FEE) {
+            int fee = tokens.value;
+            if (tokens.kind == NUMBER && fee > MOST_FEE) {
                 return fail(WRONG_FEE);
             }
             if (expect(NUMBER) && expect(WHEN) && readAll(0) && expect(SEMICOLON)) {
@@ -877,12 +873,12 @@ public final class ShoreDay {
         }
 
         private boolean fail(int kind) {
-            fault = kind + 16 * tokens.place();
+            fault = kind + 16 * tokens.place;
             return false;
         }
 
         private boolean expect(int kind) {
-            if (tokens.kind() != kind) {
+            if (tokens.kind != kind) {
                 return fail(WRONG_TOKEN);
             }
             tokens.step();
@@ -891,7 +887,7 @@ public final class ShoreDay {
 
         private boolean readAll(int depth) {
             boolean right = readTest(depth);
-            for (int i = 0; i < TAPE_LENGTH && right && tokens.kind() == AND; i++) {
+            for (int i = 0; i < TAPE_LENGTH && right && tokens.kind == AND; i++) {
                 tokens.step();
                 right = readTest(depth);
                 into.put(-AND);
@@ -901,7 +897,7 @@ public final class ShoreDay {
 
         private boolean readTest(int depth) {
             boolean right = readSum(depth);
-            int sign = tokens.kind();
+            int sign = tokens.kind;
             if (right && (sign == LESS || sign == EQUAL)) {
                 tokens.step();
                 right = readSum(depth);
@@ -912,30 +908,37 @@ public final class ShoreDay {
 
         private boolean readSum(int depth) {
             boolean right = readPart(depth);
-            int sign = tokens.kind();
+            int sign = tokens.kind;
             for (int i = 0; i < TAPE_LENGTH && right && (sign == PLUS || sign == MINUS); i++) {
                 tokens.step();
                 right = readPart(depth);
                 into.put(-sign);
-                sign = tokens.kind();
+                sign = tokens.kind;
             }
             return right;
         }
 
         private boolean readPart(int depth) {
-            int kind = tokens.kind();
+            int kind = tokens.kind;
             if (kind != NUMBER && kind != OPEN && kind < GUESTS) {
                 return fail(WRONG_TOKEN);
             }
             if (depth >= MOST_WITHIN) {
                 return fail(TOO_MUCH);
             }
-            int value = tokens.value();
+            int value = tokens.value;
             tokens.step();
-            if (kind == OPEN) {
-                return readAll(depth + 1) && expect(CLOSE);
+            if (kind != OPEN) {
+                into.put(kind == NUMBER ? value : -kind);
+                return true;
             }
-            into.put(kind == NUMBER ? value : -kind);
+            if (!readAll(depth + 1)) {
+                return false;
+            }
+            if (tokens.kind != CLOSE) {
+                return fail(WRONG_TOKEN);
+            }
+            tokens.step();
             return true;
         }
     }

@@ -346,10 +346,12 @@ public final class FeeTest {
         ShoreDay day = landing(2, 0, 0, 1);
         for (int i = 0; i < 60; i++) {
             String e = "1+".repeat(20) + "1";
-            CHECK.same("text " + i, Check.read(day, "fee 500 when " + e + (i % 3 == 2 ? "" : ";")), i % 3 == 2 ? 1 + 16 * 54 : 0);
+            boolean faulty = i % 3 == 2;
+            int due = faulty ? 1 + 16 * 54 : 0;
+            CHECK.same("text " + i, Check.read(day, "fee 500 when " + e + (faulty ? "" : ";")), due);
         }
-        Check.read(day, "fee 4 when guests = 2 and (1 and (2 - 1 = 1)); fee 3 when 1;");
-        CHECK.same("lines", day.count(8), 2);
+        Check.read(day, "fee 5 when guests = 3; fee 4 when guests = 2 and (1 and (2 - 1 = 1)); fee 3 when 1;");
+        CHECK.same("lines", day.count(8), 3);
         day.minutes(2);
         CHECK.same("paid by the last one", day.look(0, 4), 8);
     }
