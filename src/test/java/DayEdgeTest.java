@@ -17,6 +17,7 @@ public final class DayEdgeTest {
         seatsAcrossShips();
         roomToTheLast();
         roomOfOne();
+        oneGuestIsSomeone();
         townToTheLast();
         townCountsLoadingTenders();
         townForgetsWhoIsGone();
@@ -308,6 +309,20 @@ public final class DayEdgeTest {
         to(day, 5);
         states("back", day, 0, 5);
         tender("lies: nobody fits, nobody is at the quay", day, 0, 0, 0, 0);
+    }
+
+    /** It leaves if someone is in it: one guest is enough, though nobody waits on the other side. */
+    private static void oneGuestIsSomeone() {
+        ShoreDay day = day(3, 719, 200);
+        day.group(0, 1, 0, 0, -1, 5);
+        to(day, 1);
+        tender("leaves the ship with one", day, 0, 1, 3, 1);
+        to(day, 8);
+        tender("lies at the quay for nobody", day, 0, 2, 0, 0);
+        to(day, 9);
+        tender("leaves the quay with one", day, 0, 3, 3, 1);
+        to(day, 12);
+        states("back", day, 5);
     }
 
     private static void townToTheLast() {

@@ -467,5 +467,14 @@ public final class TextEdgeTest {
         CHECK.same("lines", day.count(8), 1);
         day.minutes(2);
         CHECK.same("none of the old lines", day.look(0, 4), 0);
+        for (int lines = 0; lines <= 16; lines++) {
+            ShoreDay third = landing(5, 0, 0);
+            Check.read(third, "fee 1 when 1;".repeat(16));
+            Check.read(third, "fee 2 when 1;".repeat(16));
+            CHECK.same("a third text", Check.read(third, "fee 3 when 0;".repeat(lines)), 0);
+            CHECK.same("lines", third.count(8), lines);
+            third.minutes(2);
+            CHECK.same("none of the old lines behind " + lines, third.look(0, 4), 0);
+        }
     }
 }
