@@ -25,6 +25,7 @@ public final class DayEdgeTest {
         allAboardAtTheLast();
         arrivesAndGoesInOneMinute();
         emptyTenderGoesOnlyForItsShip();
+        someoneOfAnotherShipAtTheQuay();
         tooManyForAnyTender();
         seaInItsRowAlone();
         seaStopsTendersThatLieAlone();
@@ -483,6 +484,28 @@ public final class DayEdgeTest {
         tender("the MINUTE has not come", day, 1, 2, 0, 0);
         to(day, 28);
         tender("the MINUTE has come, and one came to the quay", day, 1, 3, 5, 9);
+    }
+
+    /** A GROUP waits at the QUAY for long, its own SHIP's TENDER being away: the other SHIP's does not come for it. */
+    private static void someoneOfAnotherShipAtTheQuay() {
+        ShoreDay day = new ShoreDay();
+        day.ship(5, 719, 0);
+        day.ship(5, 719, 0);
+        day.tender(0, 9);
+        day.tender(1, 9);
+        day.group(1, 9, 0, 0, -1, 3);
+        day.group(1, 9, 1, 2, -1, 600);
+        to(day, 6);
+        tender("goes back for the other group", day, 1, 3, 5, 0);
+        for (int minute = 9; minute < 16; minute++) {
+            to(day, minute);
+            states("one waits at the quay", day, 4, minute < 11 ? 0 : 1);
+            tender("of another ship", day, 0, 0, 0, 0);
+        }
+        to(day, 16);
+        states("fetched by its own", day, 1, 2);
+        tender("of its ship", day, 1, 3, 5, 9);
+        tender("of another ship still", day, 0, 0, 0, 0);
     }
 
     /** A GROUP that no TENDER has room for: one at the QUAY goes back for it, and lies at the SHIP. */

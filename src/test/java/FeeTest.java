@@ -271,6 +271,50 @@ public final class FeeTest {
         Check.read(day, "fee 5 when tour = 1 and ship = 1 and rank = 5;");
         day.minutes(2);
         CHECK.same("tour, ship and rank", day.count(6), 15);
+        tourWord();
+        wordsOfTheOneThatLands();
+    }
+
+    /** 1 for each TOUR, whatever its number, ahead of its begin and behind it. */
+    private static void tourWord() {
+        ShoreDay day = new ShoreDay();
+        day.ship(1, 719, 0);
+        day.tender(0, 200);
+        day.tour(300, 5, 5, 0);
+        day.tour(2, 5, 5, 0);
+        day.tour(1, 5, 5, 0);
+        Check.read(day, "fee 5 when tour = 1; fee 7 when tour = 0;");
+        for (int tour = -1; tour < 3; tour++) {
+            day.group(0, 1, 0, 0, tour, 9);
+        }
+        day.minutes(2);
+        CHECK.same("without a tour", day.look(0, 4), 7);
+        CHECK.same("ahead of its begin", day.look(1, 4), 5);
+        CHECK.same("as it begins", day.look(2, 4), 5);
+        CHECK.same("behind its begin", day.look(3, 4), 5);
+    }
+
+    /** Each word is of the GROUP that lands, not of those that land with it or landed ahead of it. */
+    private static void wordsOfTheOneThatLands() {
+        ShoreDay day = new ShoreDay();
+        day.ship(1, 719, 7);
+        day.ship(1, 719, 3);
+        day.tender(0, 200);
+        day.tender(1, 200);
+        day.tour(9, 9, 9, 0);
+        day.group(0, 6, 0, 0, -1, 600);
+        day.group(0, 4, 0, 0, 0, 600);
+        day.group(1, 2, 0, 0, -1, 600);
+        day.group(1, 1, 0, 118, -1, 600);
+        Check.read(day, "fee 10 when guests = 6 and tour = 0 and hour = 0 and rank = 7 and ship = 0 and landed = 0;"
+            + "fee 20 when guests = 4 and tour = 1 and hour = 0 and rank = 7 and ship = 0 and landed = 6;"
+            + "fee 30 when guests = 2 and tour = 0 and hour = 0 and rank = 3 and ship = 1 and landed = 10;"
+            + "fee 40 when guests = 1 and tour = 0 and hour = 2 and rank = 3 and ship = 1 and landed = 12;");
+        day.minutes(120);
+        int[] due = {60, 80, 60, 40};
+        for (int i = 0; i < due.length; i++) {
+            CHECK.same("what group " + i + " paid", day.look(i, 4), due[i]);
+        }
     }
 
     private static void word(String word, int due, int guests, int rank, int from) {

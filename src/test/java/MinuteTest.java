@@ -154,6 +154,7 @@ public final class MinuteTest {
         CHECK.same("back in all", day.guests(0, 3), 12);
         CHECK.same("nobody in town", day.count(5), 0);
         quayOrderWithLittleRoom();
+        quaySkipsLarger();
     }
 
     private static void quayOrderWithLittleRoom() {
@@ -170,6 +171,23 @@ public final class MinuteTest {
         CHECK.same("the second comer's tender", day.look(0, 1), 2);
         CHECK.same("first comer, lower number", day.look(1, 1), 0);
         CHECK.same("first comer, higher number", day.look(2, 1), 1);
+    }
+
+    /** The one that is there first is too large for the TENDER that is filled first; the one behind it is not. */
+    private static void quaySkipsLarger() {
+        ShoreDay day = new ShoreDay();
+        day.ship(2, 700, 0);
+        day.tender(0, 4);
+        day.tender(0, 9);
+        day.group(0, 9, 0, 0, -1, 3);
+        day.group(0, 4, 1, 0, -1, 4);
+        day.shut(4, 7);
+        day.minutes(7);
+        CHECK.same("the larger is there first", day.look(0, 5), 6);
+        CHECK.same("the smaller is behind it", day.look(1, 5), 7);
+        day.minutes(1);
+        CHECK.same("the larger's tender", day.look(0, 1), 1);
+        CHECK.same("the smaller's tender", day.look(1, 1), 0);
     }
 
     private static void tourLandsInItsMinute() {

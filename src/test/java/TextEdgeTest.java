@@ -22,6 +22,7 @@ public final class TextEdgeTest {
         leastOfTheFirst();
         endByPlace();
         valuesAtTheirEdges();
+        longRowsOfAnd();
         hoursAtTheirEdges();
         guestsAndRanksAtTheirEdges();
         landedAtItsEdges();
@@ -225,6 +226,9 @@ public final class TextEdgeTest {
             fault("fee 1 when " + part + "s;", 1, 11);
             fault("fee 1 when " + part.toUpperCase() + ";", 1, 11);
             fault("fee 1 when " + part + "1;", 1, 11 + part.length());
+            fault("fee 1 when " + part + "A;", 1, 11 + part.length());
+            fault("fee 1 when " + part + "_;", 1, 11 + part.length());
+            fault("fee 1 when 12A" + part + ";", 1, 13);
         }
         fault("fe 1 when 1;", 1, 0);
         fault("ee 1 when 1;", 1, 0);
@@ -363,6 +367,20 @@ public final class TextEdgeTest {
         holdsIf("1 + 1 = 1 and 1", false);
         holdsIf("9999" + "+9999".repeat(55) + "-9999".repeat(56), false);
         holdsIf("0" + "-9999".repeat(58) + "+9999".repeat(58) + "+1", true);
+    }
+
+    /** As many sides as a TAPE has room for, and each of them counts. */
+    private static void longRowsOfAnd() {
+        for (int sides : new int[] {2, 15, 16, 17, 18, 40, 80}) {
+            String ones = "1 and ".repeat(sides - 1);
+            holdsIf(ones + "1", true);
+            holdsIf(ones + "0", false);
+            holdsIf("0" + " and 1".repeat(sides - 1), false);
+            holdsIf("1 and 0" + " and 1".repeat(sides - 1), false);
+            holdsIf("(" + ones + "5) = 1", true);
+        }
+        holdsIf("1<2 and ".repeat(60) + "2=2", true);
+        holdsIf("1<2 and ".repeat(60) + "2<2", false);
     }
 
     private static void hoursAtTheirEdges() {
