@@ -10,7 +10,7 @@ public final class RoomTest {
     private static final long MOST_OF_AN_OBJECT = 7_000_000L * 4 / 512;
     private static final long MOST_OF_ADDING = 200;
     // What the machine itself may want now and then, far below one array or object a call.
-    private static final long SLACK = 1000;
+    private static final long SLACK = 4000;
     private static final ThreadMXBean THREADS = (ThreadMXBean) ManagementFactory.getThreadMXBean();
     private static final Check CHECK = new Check("RoomTest");
     private static int sum;
